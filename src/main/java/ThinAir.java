@@ -11,7 +11,7 @@ public final class ThinAir {
     private static final int GREATEST_VALUE = 9999, GREATEST_WIND = 60, GREATEST_HEIGHT = 40;
     private static final int MOST_HELP = 999, LAST_HAND = 5, LAST_REASON = 9, REASON_STEP = 10000;
     private static final int PLAIN = 0, HELPED = 1, GAUGED = 2, LATER = 3, SHORT = 4, STRUCK = 5;
-    private static final int WIND = 0, HEIGHT = 1, HEAT = 2, FLOOR = 3, SHOE = 4, MEASURES = 5;
+    private static final int WIND = 0, HEIGHT = 1, HEAT = 2, FLOOR = 3, MEASURES = 5;
     private static final int PUT_STEP = 1000, PAIR_STEP = 100, JUST_MOST = 20;
 
     private final Row[] theRows;
@@ -846,7 +846,6 @@ public final class ThinAir {
     private static final class Row extends Strip {
         final int[] cells = new int[LONGEST];
 
-        @Override
         int cell(int i) {
             return has(i) ? cells[i] : 0;
         }
@@ -868,7 +867,6 @@ public final class ThinAir {
     private static final class Text extends Strip {
         final byte[] signs = new byte[LONGEST];
 
-        @Override
         int cell(int i) {
             return has(i) ? signs[i] : 0;
         }
@@ -993,50 +991,40 @@ public final class ThinAir {
 
     /** Goes along a TEXT; where something can't be read it rests, so that its place is the FAULT. */
     private static final class Reader {
-        /** Behind the end; no byte is as low. */
-        static final int END = -1000;
-
-        final Text text;
+        private final byte[] signs;
+        private final int size;
         int at;
 
         Reader(Text text) {
-            this.text = text;
-        }
-
-        int sign() {
-            return text.has(at) ? text.signs[at] : END;
+            signs = text.signs;
+            size = text.size;
         }
 
         boolean endsBehindBlanks() {
-            for (int i = 0; i < LONGEST && sign() == ' '; i++) {
+            while (at < size && signs[at] == ' ') {
                 at++;
             }
-            return sign() == END;
+            return at >= size;
         }
 
-        boolean passes(int wanted) {
-            if (sign() != wanted) {
+        boolean passes(char wanted) {
+            if (at >= size || signs[at] != wanted) {
                 return false;
             }
             at++;
             return true;
         }
 
-        boolean isAtFigure(int greatest) {
-            return within(sign(), '0', '0' + greatest);
-        }
-
-        /** A number of some figures at most; NONE: there is none. */
+        /** A number of so many figures at most; NONE: there is none. */
         int figures(int most) {
-            if (!isAtFigure(9)) {
-                return NONE;
-            }
+            int behind = Math.min(at + most, size);
+            int from = at;
             int n = 0;
-            for (int i = 0; i < most && isAtFigure(9); i++) {
-                n = 10 * n + sign() - '0';
+            while (at < behind && signs[at] >= '0' && signs[at] <= '9') {
+                n = 10 * n + signs[at] - '0';
                 at++;
             }
-            return n;
+            return at > from ? n : NONE;
         }
 
         /** A number of one or two figures, perhaps below 0; NONE: there is none. */
@@ -1044,6 +1032,15 @@ public final class ThinAir {
             boolean below = passes('-');
             int n = figures(2);
             return n == NONE || !below ? n : -n;
+        }
+
+        /** A SHOE by one figure; NONE: there is none, and a greater figure is not passed. */
+        int shoeFigure() {
+            if (at >= size || signs[at] < '0' || signs[at] >= '0' + SHOES) {
+                return NONE;
+            }
+            at++;
+            return signs[at - 1] - '0';
         }
     }
 
@@ -1073,7 +1070,6 @@ public final class ThinAir {
 
         final int[] numbers = new int[NUMBERS];
 
-        @Override
         boolean readItem(Reader reader) {
             if (reader.passes('W')) {
                 return readFalling(reader, WIND_ITEM);
@@ -1091,39 +1087,34 @@ public final class ThinAir {
         }
 
         private boolean readFalling(Reader reader, int item) {
-            if (!readSingle(reader, item) || !reader.passes(',')) {
+            numbers[item] = reader.signedFigures();
+            if (numbers[item] == NONE || !reader.passes(',')) {
                 return false;
             }
-            return readSingle(reader, item + 1) && numbers[item + 1] > 0;
+            numbers[item + 1] = reader.signedFigures();
+            return numbers[item + 1] > 0;
+        }
+
+        private boolean readSingle(Reader reader, int item) {
+            numbers[item] = reader.signedFigures();
+            return numbers[item] != NONE;
         }
 
         private boolean readShoe(Reader reader) {
-            if (!reader.isAtFigure(SHOES - 1)) {
+            int shoe = reader.shoeFigure();
+            if (shoe == NONE || !reader.passes(':')) {
                 return false;
             }
-            int shoe = reader.figures(1);
-            return reader.passes(':') && readSingle(reader, SHOE_ITEM + shoe);
+            numbers[SHOE_ITEM + shoe] = reader.signedFigures();
+            return numbers[SHOE_ITEM + shoe] != NONE;
         }
 
-        private boolean readSingle(Reader reader, int which) {
-            int n = reader.signedFigures();
-            if (n == NONE || !within(which, 0, NUMBERS - 1)) {
-                return false;
-            }
-            numbers[which] = n;
-            return true;
-        }
-
-        /** What the k-th tenth of WIND, or the k-th of HEIGHT, gives. */
-        private int step(int item, int k) {
+        /** What the first so many tenths of WIND, or of HEIGHT, give together. */
+        private int stepsGiven(int item, int many) {
             int slowness = numbers[item + 1];
-            return slowness > 0 ? numbers[item] - k / slowness : 0;
-        }
-
-        private int steps(int item, int many) {
             int given = 0;
-            for (int k = 1; k <= many; k++) {
-                given += step(item, k);
+            for (int k = 1; k <= many && slowness > 0; k++) {
+                given += numbers[item] - k / slowness;
             }
             return given;
         }
@@ -1132,13 +1123,13 @@ public final class ThinAir {
             if (wind == NONE) {
                 return 0;
             }
-            return wind < 0 ? wind * numbers[WIND_ITEM] : steps(WIND_ITEM, wind);
+            return wind < 0 ? wind * numbers[WIND_ITEM] : stepsGiven(WIND_ITEM, wind);
         }
 
         int allGiven(Mark mark) {
             Place where = mark.where;
             return windGiven(mark.wind)
-                    + steps(HEIGHT_ITEM, where.height)
+                    + stepsGiven(HEIGHT_ITEM, where.height)
                     + (where.heat - 20) * numbers[HEAT_ITEM]
                     + where.floor * numbers[FLOOR_ITEM]
                     + numbers[SHOE_ITEM + mark.shoe];
@@ -1167,8 +1158,9 @@ public final class ThinAir {
         }
 
         int firstBelowNought(int item, int last) {
-            for (int k = 1; k <= last; k++) {
-                if (step(item, k) < 0) {
+            int slowness = numbers[item + 1];
+            for (int k = 1; k <= last && slowness > 0; k++) {
+                if (numbers[item] < k / slowness) {
                     return k;
                 }
             }
@@ -1195,7 +1187,6 @@ public final class ThinAir {
         boolean shortOut;
         boolean homeCounts;
 
-        @Override
         boolean readItem(Reader reader) {
             if (reader.passes('w')) {
                 return readWind(reader.figures(2));

@@ -26,7 +26,7 @@ public final class LawsTest {
     }
 
     private static void promise20Laws() {
-        String[] sound = {"", " ", "     ", "W9,4", "  W9,4  ", "W-9,1", "W99,99H-99,99", "H3,4T5F6S0:7S3:-8",
+        String[] sound = {"", " ", " ".repeat(40), "W9,4", "  W9,4  ", "W-9,1", "W99,99H-99,99", "H3,4T5F6S0:7S3:-8",
             "T-20", "T0", "T-0", "F00", "S1:2 S1:3", "W1,2  W3,4", "W0,1", "H1,01"};
         for (String signs : sound) {
             isFault(false, signs, NONE);
@@ -50,6 +50,10 @@ public final class LawsTest {
         isFault(false, "W9:1", 2);
         isFault(false, "T", 1);
         isFault(false, "T-", 2);
+        isFault(false, "T:", 1);
+        isFault(false, "T/", 1);
+        isFault(false, "S/:1", 1);
+        isFault(false, "T1" + " ".repeat(37) + "T", 40);
         isFault(false, "T - 1", 1);
         isFault(false, "T5 5", 3);
         isFault(false, "T5,5", 2);
@@ -88,6 +92,9 @@ public final class LawsTest {
         isFault(true, "w 1", 1);
         isFault(true, "w123", 3);
         isFault(true, "h", 1);
+        isFault(true, "h123", 3);
+        isFault(true, "y123", 3);
+        isFault(true, "s:", 1);
         isFault(true, "hx", 1);
         isFault(true, "h1x", 2);
         isFault(true, "y", 1);

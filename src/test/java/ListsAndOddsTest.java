@@ -371,6 +371,7 @@ public final class ListsAndOddsTest {
         Due.bad(x, "crowd(0, 0, -1, 1)", () -> x.crowd(0, 0, -1, 1));
         Due.bad(x, "crowd(0, 0, 0, 0)", () -> x.crowd(0, 0, 0, 0));
         Due.bad(x, "crowd(0, 0, 0, 41)", () -> x.crowd(0, 0, 0, 41));
+        Due.finds(x, "crowd(0, 3, 0, 1)", () -> x.crowd(0, 3, 0, 1), NOUGHT);
         Due.finds(x, "crowd(0, 0, 27, 40)", () -> x.crowd(0, 0, 27, 40), NOUGHT);
         Due.finds(x, "crowd(2, 0, 0, 1)", () -> x.crowd(2, 0, 0, 1), NOTHING);
         Due.write(x, 2, "s4");
@@ -391,5 +392,8 @@ public final class ListsAndOddsTest {
         Due.tells(x, "next() of more", x.next(), 3, 2);
         x.strike(1, 0);
         Due.tells(x, "next(): a STRUCK one counts", x.next(), 3, 2);
+        ThinAir first = withPlaces();
+        first.mark(0, 2, 100, NONE, 0);
+        Due.tells(first, "next() of mark 0", first.next(), 2, 1);
     }
 }

@@ -85,8 +85,10 @@ public final class RowsAndMarksTest {
 
     private static void promise4() {
         ThinAir x = new ThinAir();
+        long digest = x.digest();
         x.row(1, 4);
         Due.is("tear(1)", x.tear(1), 1);
+        Due.is("digest() as before the row", x.digest(), digest);
         Due.is("count(5)", x.count(5), 0);
         Due.finds(x, "tear(1) again", () -> x.tear(1), NOTHING);
         Due.finds(x, "lay(1, 0, 0) torn", () -> x.lay(1, 0, 0), NOTHING);
@@ -213,6 +215,9 @@ public final class RowsAndMarksTest {
         }
         Due.refuses(x, "place(0, 0, 0, 0) of nine", () -> x.place(0, 0, 0, 0), ThinAir.FULL);
         Due.bad(x, "place(41, 0, 0, 0) of nine", () -> x.place(41, 0, 0, 0));
+        Due.bad(x, "about(8, 0)", () -> x.about(8, 0));
+        Due.bad(x, "mark(0, 8, 1, 0, 0)", () -> x.mark(0, 8, 1, 0, 0));
+        Due.is("mark(0, 7, 1, 0, 0)", x.mark(0, 7, 1, 0, 0), 0);
     }
 
     private static void promise11() {
@@ -237,6 +242,8 @@ public final class RowsAndMarksTest {
         }
         Due.refuses(x, "mark() of 41", () -> x.mark(0, 0, 1, 0, 0), ThinAir.FULL);
         Due.bad(x, "mark() of 41 at no place", () -> x.mark(0, 1, 1, 0, 0));
+        Due.bad(x, "told(40, 0)", () -> x.told(40, 0));
+        Due.tells(x, "told(39, 4)", x.told(39, 4), 1, 39);
     }
 
     private static void promise12() {
@@ -253,6 +260,7 @@ public final class RowsAndMarksTest {
         }
         x.row(1, 0);
         Due.is("marks(4, 0, 1) of none", x.marks(4, 0, 1), 0);
+        Due.is("marks(11, 0, 1) of none", x.marks(11, 0, 1), 0);
         Due.bad(x, "marks(12, 0, 0)", () -> x.marks(12, 0, 0));
         Due.bad(x, "marks(-1, 0, 0)", () -> x.marks(-1, 0, 0));
         Due.bad(x, "marks(0, 1, 0)", () -> x.marks(0, 1, 0));

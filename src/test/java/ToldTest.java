@@ -152,6 +152,8 @@ public final class ToldTest {
         x.strike(3, 0);
         x.tear(0);
         areCounts(x, "struck", 5, 2, 4, 2, 2, 1, 3, 2);
+        x.strike(0, 0);
+        areCounts(x, "mark 0 struck", 5, 2, 4, 1, 3, 1, 3, 2);
         Due.bad(x, "count(8)", () -> x.count(8));
         Due.bad(x, "count(-1)", () -> x.count(-1));
     }
