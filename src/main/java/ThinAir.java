@@ -420,11 +420,7 @@ public final class ThinAir {
         if (near == 0) {
             return found(NOUGHT);
         }
-        long ways = 0;
-        for (int hits = exact; hits <= near; hits++) {
-            ways += choose(near, hits) * power(4, near - hits);
-        }
-        tellFraction(ways, power(5, near));
+        tellOddsOfFive(exact, near);
         return exact;
     }
 
@@ -453,26 +449,10 @@ public final class ThinAir {
     }
 
     public int gains(int t, int other) {
-        Text text = textAt(t);
-        Text otherText = textAt(other);
-        if (text == null || otherText == null) {
-            return BAD;
+        int refused = rankBoth(t, other);
+        if (refused != 0) {
+            return refused;
         }
-        if (text.isMissing() || otherText.isMissing()) {
-            return found(NOTHING);
-        }
-        Rules rules = new Rules();
-        Rules otherRules = new Rules();
-        if (rules.readAll(new Reader(text)) == NONE || otherRules.readAll(new Reader(otherText)) == NONE) {
-            return STATE;
-        }
-        if (lacksLaws(rules) || lacksLaws(otherRules)) {
-            return found(NOTHING);
-        }
-        fill(ranking, rules);
-        fill(otherRanking, otherRules);
-        ranking.keepBestOfEach(theMarks);
-        otherRanking.keepBestOfEach(theMarks);
         int gainers = 0;
         for (int person = 0; person < PERSONS; person++) {
             if (ranking.seats[person] < otherRanking.seats[person]) {
@@ -524,11 +504,7 @@ public final class ThinAir {
         if (these == 0 || t > ranking.size) {
             return found(NOUGHT);
         }
-        long ways = 0;
-        for (int hits = best; hits <= these; hits++) {
-            ways += choose(t, hits) * choose(ranking.size - t, these - hits);
-        }
-        tellFraction(ways, choose(ranking.size, these));
+        tellOddsOfChoice(best, these, t, ranking.size);
         return best;
     }
 
@@ -657,6 +633,24 @@ public final class ThinAir {
         }
     }
 
+    /** Odds that of so many, each of five alike likely, as many or more are one of the five. */
+    private void tellOddsOfFive(int hitsAtLeast, int many) {
+        long ways = 0;
+        for (int hits = hitsAtLeast; hits <= many; hits++) {
+            ways += choose(many, hits) * power(4, many - hits);
+        }
+        tellFraction(ways, power(5, many));
+    }
+
+    /** Odds that of so many chosen out of all, as many or more are among the best, all choices alike likely. */
+    private void tellOddsOfChoice(int hitsAtLeast, int chosen, int best, int all) {
+        long ways = 0;
+        for (int hits = hitsAtLeast; hits <= chosen; hits++) {
+            ways += choose(best, hits) * choose(all - best, chosen - hits);
+        }
+        tellFraction(ways, choose(all, chosen));
+    }
+
     private static long commonDivisor(long a, long b) {
         long greater = a;
         long lesser = b;
@@ -757,6 +751,31 @@ public final class ThinAir {
         if (oneOfEach) {
             ranking.keepBestOfEach(theMarks);
         }
+        return 0;
+    }
+
+    /** Ranks one MARK of each PERSON by the RULES of two TEXTS; 0, or what it is refused by. */
+    private int rankBoth(int t, int other) {
+        Text text = textAt(t);
+        Text otherText = textAt(other);
+        if (text == null || otherText == null) {
+            return BAD;
+        }
+        if (text.isMissing() || otherText.isMissing()) {
+            return found(NOTHING);
+        }
+        Rules rules = new Rules();
+        Rules otherRules = new Rules();
+        if (rules.readAll(new Reader(text)) == NONE || otherRules.readAll(new Reader(otherText)) == NONE) {
+            return STATE;
+        }
+        if (lacksLaws(rules) || lacksLaws(otherRules)) {
+            return found(NOTHING);
+        }
+        fill(ranking, rules);
+        ranking.keepBestOfEach(theMarks);
+        fill(otherRanking, otherRules);
+        otherRanking.keepBestOfEach(theMarks);
         return 0;
     }
 

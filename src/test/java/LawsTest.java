@@ -54,6 +54,9 @@ public final class LawsTest {
         isFault(false, "T/", 1);
         isFault(false, "S/:1", 1);
         isFault(false, "T1" + " ".repeat(37) + "T", 40);
+        isFault(false, " ".repeat(39) + "S", 40);
+        isFault(false, " ".repeat(37) + "S1:", 40);
+        isFault(false, " ".repeat(36) + "W1,1", NONE);
         isFault(false, "T - 1", 1);
         isFault(false, "T5 5", 3);
         isFault(false, "T5,5", 2);
@@ -95,6 +98,8 @@ public final class LawsTest {
         isFault(true, "h123", 3);
         isFault(true, "y123", 3);
         isFault(true, "s:", 1);
+        isFault(true, " ".repeat(39) + "s", 40);
+        isFault(true, " ".repeat(39) + "w", 40);
         isFault(true, "hx", 1);
         isFault(true, "h1x", 2);
         isFault(true, "y", 1);

@@ -108,6 +108,9 @@ public final class ListsAndOddsTest {
         Due.fraction(x, "learn(3)", x.learn(3), 1, -1, 1);
         x.mark(0, 0, 111, 11, 0);
         Due.fraction(x, "learn(0) of three", x.learn(0), 3, -19, 16);
+        x.mark(1, 3, 250, 0, 0);
+        x.mark(1, 0, 200, 0, 0);
+        Due.fraction(x, "learn(3), the greater ahead", x.learn(3), 2, 49, 2);
         Due.bad(x, "learn(4)", () -> x.learn(4));
         Due.bad(x, "learn(-1)", () -> x.learn(-1));
         Due.is("asked() unmoved by learn()", x.asked(), 0);
