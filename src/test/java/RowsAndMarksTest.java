@@ -96,13 +96,6 @@ public final class RowsAndMarksTest {
         Due.bad(x, "tear(6)", () -> x.tear(6));
     }
 
-    private static void fillRow(ThinAir x, int r, int... cells) {
-        x.row(r, cells.length);
-        for (int i = 0; i < cells.length; i++) {
-            x.lay(r, i, cells[i]);
-        }
-    }
-
     private static void isRow(ThinAir x, String call, int r, int... cells) {
         for (int i = 0; i < cells.length; i++) {
             x.lay(r, i, cells[i]);
@@ -112,8 +105,8 @@ public final class RowsAndMarksTest {
 
     private static void promise5() {
         ThinAir x = new ThinAir();
-        fillRow(x, 0, 1, 2, 3, 4, 5);
-        fillRow(x, 1, 9, 9, 9);
+        Due.fill(x, 0, 1, 2, 3, 4, 5);
+        Due.fill(x, 1, 9, 9, 9);
         Due.is("copy(0, 1, 1, 0, 2)", x.copy(0, 1, 1, 0, 2), 1);
         isRow(x, "copy(0, 1, 1, 0, 2)", 1, 2, 3, 9);
         isRow(x, "copy(0, 1, 1, 0, 2)", 0, 1, 2, 3, 4, 5);
@@ -141,13 +134,13 @@ public final class RowsAndMarksTest {
 
     private static void promise6() {
         ThinAir x = new ThinAir();
-        fillRow(x, 0, 1, 2, 2);
+        Due.fill(x, 0, 1, 2, 2);
         Due.tells(x, "mean(0) of 1 2 2", x.mean(0), 1, 1);
-        fillRow(x, 0, -1, -2, -2);
+        Due.fill(x, 0, -1, -2, -2);
         Due.tells(x, "mean(0) of -1 -2 -2", x.mean(0), 1, -1);
-        fillRow(x, 0, MAX, MAX, MAX);
+        Due.fill(x, 0, MAX, MAX, MAX);
         Due.tells(x, "mean(0) of greatest ints", x.mean(0), 1, MAX);
-        fillRow(x, 0, MIN, MIN);
+        Due.fill(x, 0, MIN, MIN);
         Due.tells(x, "mean(0) of least ints", x.mean(0), 1, MIN);
         x.row(1, 0);
         Due.finds(x, "mean(1) of none", () -> x.mean(1), NOUGHT);
@@ -250,7 +243,7 @@ public final class RowsAndMarksTest {
         ThinAir x = new ThinAir();
         x.place(0, 20, 0, 0);
         x.later(3);
-        fillRow(x, 0, 100, NONE, 1, 200, -60, 3);
+        Due.fill(x, 0, 100, NONE, 1, 200, -60, 3);
         Due.is("marks(4, 0, 0)", x.marks(4, 0, 0), 2);
         int[][] want = {{0, 4, 0, 3, 100, NONE, 1}, {0, 4, 0, 3, 200, -60, 3}};
         for (int m = 0; m < 2; m++) {
@@ -267,11 +260,11 @@ public final class RowsAndMarksTest {
         Due.bad(x, "marks(0, 0, 6)", () -> x.marks(0, 0, 6));
         Due.bad(x, "marks(0, 0, -1)", () -> x.marks(0, 0, -1));
         Due.finds(x, "marks(0, 0, 5)", () -> x.marks(0, 0, 5), NOTHING);
-        fillRow(x, 2, 100, 0, 0, 200);
+        Due.fill(x, 2, 100, 0, 0, 200);
         Due.finds(x, "marks(0, 0, 2) of four", () -> x.marks(0, 0, 2), SIZE);
         int[][] unlike = {{0, 0, 0}, {10000, 0, 0}, {1, 61, 0}, {1, -61, 0}, {1, 0, 4}, {1, 0, -1}, {NONE, 0, 0}};
         for (int[] triple : unlike) {
-            fillRow(x, 2, 1, 0, 0, triple[0], triple[1], triple[2]);
+            Due.fill(x, 2, 1, 0, 0, triple[0], triple[1], triple[2]);
             Due.finds(x, "marks(0, 0, 2) unlike", () -> x.marks(0, 0, 2), UNLIKE);
         }
         x.row(3, 39);
