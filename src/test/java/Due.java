@@ -107,6 +107,17 @@ final class Due {
         }
     }
 
+    /** A place, marks of PERSONS 0, 1, .. with these VALUES, and TEXT 0 that lets all. */
+    static ThinAir withValues(int... values) {
+        ThinAir x = new ThinAir();
+        x.place(0, 20, 0, 0);
+        x.text(0, 0);
+        for (int person = 0; person < values.length; person++) {
+            x.mark(person, 0, values[person], 0, 0);
+        }
+        return x;
+    }
+
     static int allFindings(ThinAir x) {
         return Arrays.stream(allTimes(x)).sum();
     }

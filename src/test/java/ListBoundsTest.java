@@ -388,30 +388,21 @@ public final class ListBoundsTest {
         });
     }
 
-    private static ThinAir withValues(int... values) {
-        ThinAir x = withPlaces();
-        x.text(0, 0);
-        for (int i = 0; i < values.length; i++) {
-            x.mark(i, 0, values[i], 0, 0);
-        }
-        return x;
-    }
-
     private static void far() {
         Sentence.holds(34, "FAR, told by upper(), lower(): how many are in the LIST.", () -> {
-            ThinAir x = withValues(9999, 2, 1);
+            ThinAir x = Due.withValues(9999, 2, 1);
             Due.fraction(x, "far(0), the greatest", x.far(0), 3, 9997, 1);
-            ThinAir y = withValues(9999, 9999, 1);
+            ThinAir y = Due.withValues(9999, 9999, 1);
             Due.fraction(y, "far(0), the first as the second", y.far(0), 3, 0, 1);
-            ThinAir z = withValues(9999, 9998, 1, 500);
+            ThinAir z = Due.withValues(9999, 9998, 1, 500);
             Due.fraction(z, "far(0), the least above 0", z.far(0), 4, 1, 9997);
-            ThinAir lowest = withValues(10, 6, 6, 4);
+            ThinAir lowest = Due.withValues(10, 6, 6, 4);
             Due.fraction(lowest, "far(0), in lowest terms", lowest.far(0), 4, 2, 1);
         });
         Sentence.holds(34, "BAD; NOTHING; STATE; ", () -> {
             refusesTexts("far(t)", (x, t) -> x.far(t));
             refusesFaults("far(t)", (x, t) -> x.far(t));
-            ThinAir x = withValues();
+            ThinAir x = Due.withValues();
             Due.write(x, 0, "x");
             Due.state(x, "far(0) of none, ahead of NOUGHT", () -> x.far(0));
             Due.write(x, 0, "v");
@@ -419,10 +410,10 @@ public final class ListBoundsTest {
         });
         Sentence.holds(34, "NOUGHT: fewer than three, or the second is as the last.", () -> {
             for (int[] values : new int[][] {{}, {5}, {5, 4}, {5, 4, 4}, {5, 5, 5}, {5, 4, 4, 4}}) {
-                ThinAir x = withValues(values);
+                ThinAir x = Due.withValues(values);
                 Due.finds(x, "far(0) of " + java.util.Arrays.toString(values), () -> x.far(0), NOUGHT);
             }
-            ThinAir x = withValues(5, 4);
+            ThinAir x = Due.withValues(5, 4);
             x.mark(1, 0, 3, 0, 0);
             Due.finds(x, "far(0) of three marks, two persons", () -> x.far(0), NOUGHT);
             x.mark(2, 0, 3, 0, 0);

@@ -212,24 +212,15 @@ final class TermsOfLists {
         });
     }
 
-    private static ThinAir withValues(int... values) {
-        ThinAir x = withPlaces();
-        x.text(0, 0);
-        for (int i = 0; i < values.length; i++) {
-            x.mark(i, 0, values[i], 0, 0);
-        }
-        return x;
-    }
-
     private static void odds() {
         Sentence.ofTerms("FAR: by a LIST: (the first less the second) by (the second less the last).", () -> {
-            ThinAir x = withValues(10, 7, 5);
+            ThinAir x = Due.withValues(10, 7, 5);
             Due.fraction(x, "far(0)", x.far(0), 3, 3, 2);
-            ThinAir y = withValues(1, 7, 10, 5);
+            ThinAir y = Due.withValues(1, 7, 10, 5);
             Due.fraction(y, "far(0), the last told first", y.far(0), 4, 1, 2);
-            ThinAir z = withValues(10, 7, 7);
+            ThinAir z = Due.withValues(10, 7, 7);
             Due.finds(z, "far(0), the second as the last", () -> z.far(0), NOUGHT);
-            ThinAir two = withValues(10, 7);
+            ThinAir two = Due.withValues(10, 7);
             Due.finds(two, "far(0) of two", () -> two.far(0), NOUGHT);
         });
         Sentence.ofTerms("FALL: of N MARKS, all orders alike likely, and k more: odds that the best of all is among"

@@ -121,35 +121,34 @@ public final class ToldBoundsTest {
         });
     }
 
+    /** Each call that tells a fraction, refused by an object that has nothing. */
+    private static void refuseFractions(ThinAir x) {
+        Due.finds(x, "learn(0)", () -> x.learn(0), NOUGHT);
+        Due.finds(x, "just(0)", () -> x.just(0), NOUGHT);
+        Due.finds(x, "far(0)", () -> x.far(0), NOTHING);
+        Due.bad(x, "fall(0, 0)", () -> x.fall(0, 0));
+        Due.finds(x, "crowd(0, 0, 0, 1)", () -> x.crowd(0, 0, 0, 1), NOTHING);
+    }
+
     private static void upperAndLower() {
         Sentence.holds(39, "The upper number of the fraction that was told last; 0 before.", () -> {
             ThinAir x = new ThinAir();
             Due.is("upper() of a new one", x.upper(), 0);
-            x.learn(0);
-            x.just(0);
-            x.far(0);
-            x.fall(0, 0);
-            x.crowd(0, 0, 0, 1);
+            refuseFractions(x);
             Due.is("upper() behind refused ones", x.upper(), 0);
             x.fall(4, 3);
             Due.is("upper() of fall(4, 3)", x.upper(), 3);
-            x.fall(0, 0);
-            x.learn(1);
+            refuseFractions(x);
             Due.is("upper() behind refused ones", x.upper(), 3);
         });
         Sentence.holds(40, "Its lower number; 1 before.", () -> {
             ThinAir x = new ThinAir();
             Due.is("lower() of a new one", x.lower(), 1);
-            x.learn(0);
-            x.just(0);
-            x.far(0);
-            x.fall(0, 0);
-            x.crowd(0, 0, 0, 1);
+            refuseFractions(x);
             Due.is("lower() behind refused ones", x.lower(), 1);
             x.fall(4, 3);
             Due.is("lower() of fall(4, 3)", x.lower(), 7);
-            x.mean(0);
-            x.crowd(0, 0, 0, 0);
+            refuseFractions(x);
             Due.is("lower() behind refused ones", x.lower(), 7);
         });
     }

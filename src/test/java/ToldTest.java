@@ -5,7 +5,6 @@ public final class ToldTest {
 
     public static void main(String[] args) {
         promise38();
-        promise38Unmoved();
         promise39And40();
         promise41();
         promise42And43();
@@ -64,45 +63,6 @@ public final class ToldTest {
         y.next();
         Due.is("asked() of next()", y.asked(), 1);
         Due.is("asked() twice", y.asked(), 1);
-    }
-
-    private static void promise38Unmoved() {
-        ThinAir x = full();
-        x.told(0, 4);
-        x.row(3, 1);
-        x.copy(0, 0, 0, 1, 1);
-        x.tear(3);
-        x.text(2, 2);
-        x.put(2, 0, 1);
-        x.later(1);
-        x.place(0, 0, 0, 0);
-        x.mark(5, 0, 5, 5, 0);
-        x.row(4, 0);
-        x.marks(5, 0, 4);
-        x.help(3, 1, 1);
-        x.tells(3, 1);
-        x.strike(3, 1);
-        x.fault(0, false);
-        x.laws(1, 0);
-        x.sure(0, 0, 1);
-        x.turns(0, 0);
-        x.learn(0);
-        x.just(5);
-        x.far(1);
-        x.fall(1, 1);
-        x.crowd(1, 2, 0, 1);
-        x.count(0);
-        x.finding();
-        x.findings(1);
-        x.digest();
-        x.upper();
-        x.lower();
-        Due.is("asked() of told() still", x.asked(), 900);
-        x.listed(1, 5);
-        Due.is("asked() behind listed() of none", x.asked(), 900);
-        x.told(9, 0);
-        x.mean(5);
-        Due.is("asked() behind refused ones", x.asked(), 900);
     }
 
     private static void promise39And40() {
