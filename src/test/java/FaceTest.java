@@ -26,12 +26,18 @@ public final class FaceTest {
         "int just(int)", "int list(int)", "int listed(int,int)", "int gains(int,int)", "int far(int)",
         "int fall(int,int)", "int crowd(int,int,int,int)", "int next()", "int asked()", "long upper()",
         "long lower()", "int count(int)", "int finding()", "int findings(int)", "long digest()"};
+    private static final Path DOCUMENT = Path.of("../shared/DOC.md");
+    /** What rule 4 lists, as far as the source uses it. */
+    private static final Set<String> LIBRARY = Set.of("Arrays.fill", "Arrays.copyOf", "Arrays.copyOfRange",
+        "System.arraycopy", "Math.abs", "Math.max", "Math.min", "Math.floorDiv", "Math.floorMod", "Integer.bitCount",
+        "Integer.compare", "Integer.max", "Integer.min", "Long.compare", "Long.max", "Long.min");
     private static final Path SOURCE = Path.of("src/main/java/ThinAir.java");
 
     private static int wrong = 0;
 
     public static void main(String[] args) throws Exception {
         constants();
+        document();
         face();
         classes();
         fields();
@@ -56,6 +62,22 @@ public final class FaceTest {
         hold(ThinAir.FINDING == -3, "FINDING");
         hold(ThinAir.STATE == -4, "STATE");
         hold(ThinAir.NONE == -9999, "NONE");
+    }
+
+    /** What is held here as the face is that of the document. */
+    private static void document() throws Exception {
+        if (!Files.exists(DOCUMENT)) {
+            System.out.println("the document is not at " + DOCUMENT + ": the face is not looked up there");
+            return;
+        }
+        Set<String> told = new TreeSet<>();
+        Matcher line = Pattern.compile("(?m)^    public (int|long) (\\w+)\\(([^)]*)\\);$")
+            .matcher(Files.readString(DOCUMENT));
+        while (line.find()) {
+            String types = line.group(3).replaceAll("(int|boolean) \\w+", "$1").replace(" ", "");
+            told.add(line.group(1) + " " + line.group(2) + "(" + types + ")");
+        }
+        hold(told.equals(new TreeSet<>(Arrays.asList(FACE))), "the document's face is " + told);
     }
 
     private static void face() {
@@ -146,6 +168,11 @@ public final class FaceTest {
         for (String word : out) {
             Matcher matcher = Pattern.compile(word).matcher(code);
             hold(!matcher.find(), "the source has " + word);
+        }
+        Matcher used = Pattern.compile("\\b(Arrays|System|Math|Integer|Long|Character|String|Objects)\\.\\w+")
+            .matcher(code);
+        while (used.find()) {
+            hold(LIBRARY.contains(used.group()), "the source uses " + used.group());
         }
         Matcher imports = Pattern.compile("import\\s+([^;]+);").matcher(code);
         while (imports.find()) {
